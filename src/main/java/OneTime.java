@@ -52,7 +52,7 @@ public final class OneTime {
         tape = new Tape();
         laws = new Laws();
         towers = new Towers();
-        roundSearch = new RoundSearch(towers);
+        roundSearch = new RoundSearch();
         told = new Row();
     }
 
@@ -268,7 +268,7 @@ public final class OneTime {
         if (!towns.has(town) || !isMinute(minute) || towers.size == 0 || !towers.areAllSetBy(minute)) {
             return NONE;
         }
-        roundSearch.seek(towns.suns[town], minute);
+        roundSearch.seek(towers, towns.suns[town], minute);
         if (roundSearch.bestEnd >= MINUTES) {
             return NONE;
         }
@@ -981,37 +981,32 @@ public final class OneTime {
         private static final int MINUTES_APART = 10;
         private static final int MINUTES_AT_TOWER = 30;
 
-        private final Towers towers;
         private final int[] order = new int[MOST_TOWERS];
         final int[] best = new int[MOST_TOWERS];
         int bestWorst = 0;
         int bestEnd = 0;
 
-        RoundSearch(Towers towers) {
-            this.towers = towers;
-        }
-
-        void seek(int sun, int minute) {
+        void seek(Towers towers, int sun, int minute) {
             bestWorst = Integer.MAX_VALUE;
             bestEnd = Integer.MAX_VALUE;
-            goOn(0, (1 << towers.size) - 1, sun, minute, 0);
+            goOn(towers, 0, (1 << towers.size) - 1, sun, minute, 0);
         }
 
         /** Tries towers in ascending order, so that of equal rounds the one that is found first stays. */
-        private void goOn(int gone, int left, int sun, int now, int worst) {
+        private void goOn(Towers towers, int gone, int left, int sun, int now, int worst) {
             if (gone < 0 || gone >= towers.size || gone >= MOST_TOWERS) {
-                keep(now, worst);
+                keep(gone, now, worst);
                 return;
             }
             for (int tower = 0; tower < towers.size; tower++) {
                 if ((left & (1 << tower)) != 0) {
                     int there = towers.sunOf(tower);
                     int comes = now + minutesBetween(sun, there);
-                    int size = Math.max(worst, sizeOfError(tower, comes));
+                    int size = Math.max(worst, sizeOfError(towers, tower, comes));
                     int rest = left & ~(1 << tower);
-                    if (canBeBetter(rest, there, comes + MINUTES_AT_TOWER, size)) {
+                    if (canBeBetter(towers, rest, there, comes + MINUTES_AT_TOWER, size)) {
                         order[gone] = tower;
-                        goOn(gone + 1, rest, there, comes + MINUTES_AT_TOWER, size);
+                        goOn(towers, gone + 1, rest, there, comes + MINUTES_AT_TOWER, size);
                     }
                 }
             }
@@ -1021,12 +1016,12 @@ public final class OneTime {
             return MINUTES_APART * Math.abs(sun - other);
         }
 
-        private int sizeOfError(int tower, int minute) {
+        private static int sizeOfError(Towers towers, int tower, int minute) {
             return Math.abs(towers.errorAt(tower, minute));
         }
 
-        /** No error of the rest is less than if its tower came next, and no way is shorter than over the nearer end. */
-        private boolean canBeBetter(int rest, int sun, int now, int worst) {
+        /** No error of the rest is less than if its tower came next, no way shorter than over the nearer end. */
+        private boolean canBeBetter(Towers towers, int rest, int sun, int now, int worst) {
             int low = sun;
             int high = sun;
             int stops = 0;
@@ -1036,7 +1031,7 @@ public final class OneTime {
                     int there = towers.sunOf(tower);
                     low = Math.min(low, there);
                     high = Math.max(high, there);
-                    size = Math.max(size, sizeOfError(tower, now + minutesBetween(sun, there)));
+                    size = Math.max(size, sizeOfError(towers, tower, now + minutesBetween(sun, there)));
                     stops++;
                 }
             }
@@ -1045,10 +1040,10 @@ public final class OneTime {
             return size < bestWorst || (size == bestWorst && end < bestEnd);
         }
 
-        private void keep(int end, int worst) {
+        private void keep(int gone, int end, int worst) {
             bestWorst = worst;
             bestEnd = end;
-            for (int i = 0; i < towers.size; i++) {
+            for (int i = 0; i < gone && i < MOST_TOWERS; i++) {
                 best[i] = order[i];
             }
         }
