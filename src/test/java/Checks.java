@@ -1,18 +1,28 @@
 import java.util.NoSuchElementException;
 
 /** What all tests use: counts the answers, prints those that are not as due, ends with exit code 1 if there was one. */
-final class Checks {
+class Checks {
     /** A call that may throw. */
     interface Call {
         long answer();
     }
 
     private final String name;
+    // What of the document the next answers belong to, told ahead of each that is not as due.
+    private String place = "";
     private int asked = 0;
     private int wrong = 0;
 
     Checks(String name) {
         this.name = name;
+    }
+
+    final void at(String words) {
+        place = words;
+    }
+
+    final int asked() {
+        return asked;
     }
 
     void due(String call, long got, long want) {
@@ -74,7 +84,7 @@ final class Checks {
     private void tell(String call, String what) {
         wrong++;
         if (wrong <= 50) {
-            System.out.println(name + ": " + call + " " + what);
+            System.out.println(name + ": " + place + call + " " + what);
         }
     }
 
