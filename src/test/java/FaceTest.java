@@ -2,6 +2,7 @@ import java.lang.reflect.Constructor;
 import java.lang.reflect.Field;
 import java.lang.reflect.Method;
 import java.lang.reflect.Modifier;
+import java.util.NoSuchElementException;
 import java.util.Set;
 import java.util.TreeSet;
 
@@ -14,6 +15,7 @@ public final class FaceTest {
         "int meet()", "int free()", "int close()", "int sign(int)", "boolean end(int)", "int law(int,int)",
         "int judged(int,int,int)", "int late(int,int,int,int,int,int)", "int tower(int,int,int)", "int error(int,int)",
         "int set(int,int)", "int round(int,int)", "int row(int)"};
+    private static final Set<String> THROWING = Set.of("read", "turned", "judged", "error", "set", "row");
 
     public static void main(String[] args) throws NoSuchFieldException {
         Set<String> missing = new TreeSet<>(Set.of(FACE));
@@ -22,6 +24,8 @@ public final class FaceTest {
             if (!Modifier.isPrivate(method.getModifiers())) {
                 CHECKS.due("a method of the face: " + signature(method), missing.remove(signature(method)), true);
                 CHECKS.due("public: " + method, Modifier.isPublic(method.getModifiers()), true);
+                CHECKS.due("static: " + method, Modifier.isStatic(method.getModifiers()), false);
+                thrown(method);
                 names.add(method.getName());
             }
         }
@@ -36,6 +40,7 @@ public final class FaceTest {
         CHECKS.due("one constructor", made.length, 1);
         CHECKS.due("public, without parameters", Modifier.isPublic(made[0].getModifiers()) && made[0].getParameterCount() == 0,
             true);
+        CHECKS.due("the constructor's exceptions", made[0].getExceptionTypes().length, 0);
         CHECKS.finish();
     }
 
@@ -49,6 +54,16 @@ public final class FaceTest {
         int none = OneTime.class.getDeclaredField("NONE").getModifiers();
         CHECKS.due("NONE", none, Modifier.PUBLIC | Modifier.STATIC | Modifier.FINAL);
         CHECKS.due("NONE is -1", OneTime.NONE, -1);
+    }
+
+    /** A call says that it throws where the document's face does. */
+    private static void thrown(Method method) {
+        Class<?>[] told = method.getExceptionTypes();
+        boolean throwing = THROWING.contains(method.getName());
+        CHECKS.due("exceptions of " + method, told.length, throwing ? 1 : 0);
+        if (throwing && told.length == 1) {
+            CHECKS.due("NoSuchElementException: " + method, told[0] == NoSuchElementException.class, true);
+        }
     }
 
     private static String signature(Method method) {

@@ -141,6 +141,31 @@ public final class TowerBoundsTest {
         }
         // Tower i as number k of the round is i times k seconds off: 9 at least (3 as number 3).
         round("seven", seven, 0, 9, 5, 6, 4, 3, 2, 0, 1, 210);
+        for (int step = 1; step <= 40; step++) {
+            roundOfAllOrders(4 + step % 3, step);
+        }
+        roundOfAllOrders(7, 3);
+    }
+
+    /** Towers whose towns and drifts are spread by a step, against all of their orders. */
+    private static void roundOfAllOrders(int towers, int step) {
+        OneTime x = new OneTime();
+        PlainTime plain = new PlainTime();
+        for (int i = 0; i < 7; i++) {
+            int sun = i * step * 7 % 41 - 20;
+            x.town(sun);
+            plain.town(sun);
+        }
+        for (int i = 0; i < towers; i++) {
+            int drift = i * step * 131 % 1201 - 600;
+            x.tower(i, 10 * i, drift);
+            plain.tower(i, 10 * i, drift);
+        }
+        String what = towers + " towers, spread by " + step;
+        AT.due(what, x.round(step % 7, 100), plain.round(step % 7, 100));
+        for (int i = 0; i <= towers; i++) {
+            AT.due(what + ": row(" + i + ")", x.row(i), plain.row(i));
+        }
     }
 
     private static void termEarliestEnd() {

@@ -624,6 +624,18 @@ public final class TownBoundsTest {
         for (int i = 0; i < from.length; i++) {
             AT.due("from day " + from[i] + " on", x.one(from[i]), found[i]);
         }
+        // Alike on the days 5 .. 9 and 399 alone, whichever change was told first.
+        int[] days = {5, 10, 399};
+        int[][] orders = {{0, 1, 2}, {0, 2, 1}, {1, 0, 2}, {1, 2, 0}, {2, 0, 1}, {2, 1, 0}};
+        for (int[] order : orders) {
+            OneTime some = Filling.withTowns(0, 1);
+            for (int i : order) {
+                some.clock(1, days[i], 1, i == 1 ? 1 : 0);
+            }
+            AT.due("the first of five days", some.one(0), 5);
+            AT.due("the last of five days", some.one(9), 9);
+            AT.due("behind five days", some.one(10), 399);
+        }
         OneTime full = new OneTime();
         for (int i = 0; i < 16; i++) {
             full.town(i == 15 ? 1 : 0);

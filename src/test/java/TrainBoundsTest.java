@@ -248,6 +248,13 @@ public final class TrainBoundsTest {
         AT.due("30 apart by delay", x.meet(), 0);
         x.delay(0, 1);
         AT.due("29 apart by both delays", x.meet(), 1);
+        // A way has no end but its last station: they meet behind all minutes too, as leaves() tells numbers there.
+        for (int apart = 9; apart <= 10; apart++) {
+            OneTime late = line(1, 10);
+            train(late, true, 575999 - apart, 0);
+            train(late, true, 575999, 0);
+            AT.due("behind all minutes, " + apart + " apart", late.meet(), apart == 9 ? 1 : 0);
+        }
     }
 
     private static void termFree() {
