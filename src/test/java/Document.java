@@ -48,9 +48,14 @@ final class Document {
         named.put(place, new boolean[plain.length()]);
     }
 
+    /** The words of a place, with one blank between them. */
+    String text(String place) {
+        return texts.getOrDefault(place, "");
+    }
+
     /** Whether these words stand at that place; they are named then. */
     boolean name(String place, String words) {
-        int from = texts.getOrDefault(place, "").indexOf(words);
+        int from = text(place).indexOf(words);
         if (from < 0) {
             return false;
         }

@@ -1,31 +1,73 @@
+import java.io.IOException;
 import java.lang.reflect.Constructor;
 import java.lang.reflect.Field;
 import java.lang.reflect.Method;
 import java.lang.reflect.Modifier;
-import java.util.NoSuchElementException;
+import java.nio.file.Files;
+import java.nio.file.Path;
+import java.util.ArrayList;
+import java.util.List;
 import java.util.Set;
 import java.util.TreeSet;
 
 /** The public face: what the document lists and no more, and no private method with a public one's name. */
 public final class FaceTest {
     private static final Checks CHECKS = new Checks("FaceTest");
-    private static final String[] FACE = {"int town(int)", "int clock(int,int,int,int)", "int untell()", "int count(int)",
-        "int read(int,int)", "int when(int,int)", "int turned(int,int,int)", "int unlike(int,int)", "int one(int)",
-        "int station(int,int)", "int train(boolean,int,int,int)", "int leaves(int,int)", "boolean delay(int,int)",
-        "int meet()", "int free()", "int close()", "int sign(int)", "boolean end(int)", "int law(int,int)",
-        "int judged(int,int,int)", "int late(int,int,int,int,int,int)", "int tower(int,int,int)", "int error(int,int)",
-        "int set(int,int)", "int round(int,int)", "int row(int)"};
-    private static final Set<String> THROWING = Set.of("read", "turned", "judged", "error", "set", "row");
+    private static final String CONSTANT = "public static final int NONE = -1";
+    private static final String CONSTRUCTOR = "public OneTime()";
 
-    public static void main(String[] args) throws NoSuchFieldException {
-        Set<String> missing = new TreeSet<>(Set.of(FACE));
+    public static void main(String[] args) throws NoSuchFieldException, IOException {
+        List<String> face = face();
+        source(face);
+        methods(face);
+        fields();
+        CHECKS.due("final and public", OneTime.class.getModifiers(), Modifier.PUBLIC | Modifier.FINAL);
+        Constructor<?>[] made = OneTime.class.getDeclaredConstructors();
+        CHECKS.due("one constructor", made.length, 1);
+        CHECKS.due("public, without parameters", Modifier.isPublic(made[0].getModifiers()) && made[0].getParameterCount() == 0,
+            true);
+        CHECKS.due("the constructor's exceptions", made[0].getExceptionTypes().length, 0);
+        CHECKS.finish();
+    }
+
+    /** The members as the document writes them, without the mark behind each. */
+    private static List<String> face() {
+        String text = new Document().text("The public face");
+        CHECKS.due("the class of the document", text.contains("public final class OneTime {"), true);
+        List<String> face = new ArrayList<>();
+        for (String member : text.substring(text.indexOf('{') + 1, text.indexOf('}')).split(";")) {
+            if (!member.isBlank()) {
+                face.add(member.trim());
+            }
+        }
+        CHECKS.due("the constant stands first", face.get(0).equals(CONSTANT), true);
+        CHECKS.due("then the constructor", face.get(1).equals(CONSTRUCTOR), true);
+        return face;
+    }
+
+    /** In the file each member is written as in the document: parameters bear the same names, exceptions are told. */
+    private static void source(List<String> face) throws IOException {
+        String text = Files.readString(Path.of("src/main/java/OneTime.java")).replaceAll("\\s+", " ");
+        for (String member : face) {
+            String mark = member.contains("(") ? " {" : ";";
+            CHECKS.due("as the document writes it: " + member, text.contains(" " + member + mark), true);
+        }
+        CHECKS.due("public members and the class itself", text.split("\\bpublic ", -1).length - 1, face.size() + 1);
+    }
+
+    private static void methods(List<String> face) {
+        Set<String> missing = new TreeSet<>();
+        for (String member : face) {
+            if (!member.equals(CONSTANT) && !member.equals(CONSTRUCTOR)) {
+                missing.add(member.replaceFirst("^public ", "").replaceAll("(int|boolean) \\w+(?=[,)])", "$1").replace(", ", ","));
+            }
+        }
+        CHECKS.due("methods of the document", missing.size(), 26);
         Set<String> names = new TreeSet<>();
         for (Method method : OneTime.class.getDeclaredMethods()) {
             if (!Modifier.isPrivate(method.getModifiers())) {
                 CHECKS.due("a method of the face: " + signature(method), missing.remove(signature(method)), true);
-                CHECKS.due("public: " + method, Modifier.isPublic(method.getModifiers()), true);
-                CHECKS.due("static: " + method, Modifier.isStatic(method.getModifiers()), false);
-                thrown(method);
+                CHECKS.due("public and no more: " + method, method.getModifiers(), Modifier.PUBLIC);
                 names.add(method.getName());
             }
         }
@@ -34,14 +76,6 @@ public final class FaceTest {
             boolean hidden = Modifier.isPrivate(method.getModifiers());
             CHECKS.due("a name of its own: " + method, hidden && names.contains(method.getName()), false);
         }
-        fields();
-        CHECKS.due("final", Modifier.isFinal(OneTime.class.getModifiers()), true);
-        Constructor<?>[] made = OneTime.class.getDeclaredConstructors();
-        CHECKS.due("one constructor", made.length, 1);
-        CHECKS.due("public, without parameters", Modifier.isPublic(made[0].getModifiers()) && made[0].getParameterCount() == 0,
-            true);
-        CHECKS.due("the constructor's exceptions", made[0].getExceptionTypes().length, 0);
-        CHECKS.finish();
     }
 
     private static void fields() throws NoSuchFieldException {
@@ -56,21 +90,15 @@ public final class FaceTest {
         CHECKS.due("NONE is -1", OneTime.NONE, -1);
     }
 
-    /** A call says that it throws where the document's face does. */
-    private static void thrown(Method method) {
-        Class<?>[] told = method.getExceptionTypes();
-        boolean throwing = THROWING.contains(method.getName());
-        CHECKS.due("exceptions of " + method, told.length, throwing ? 1 : 0);
-        if (throwing && told.length == 1) {
-            CHECKS.due("NoSuchElementException: " + method, told[0] == NoSuchElementException.class, true);
-        }
-    }
-
     private static String signature(Method method) {
         StringBuilder text = new StringBuilder(method.getReturnType() + " " + method.getName() + "(");
         for (Class<?> parameter : method.getParameterTypes()) {
             text.append(text.charAt(text.length() - 1) == '(' ? "" : ",").append(parameter);
         }
-        return text.append(")").toString();
+        text.append(")");
+        for (Class<?> thrown : method.getExceptionTypes()) {
+            text.append(" throws ").append(thrown.getSimpleName());
+        }
+        return text.toString();
     }
 }
